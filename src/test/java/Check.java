@@ -28,8 +28,16 @@ final class Check {
         try {
             return "the answer " + call.answer();
         } catch (Exception thrown) {
-            return thrown.getClass().getName();
+            return nameOf(thrown);
         }
+    }
+
+    /** Only what the program itself throws counts, not what a list of the library throws in it. */
+    static String nameOf(Throwable thrown) {
+        StackTraceElement[] calls = thrown.getStackTrace();
+        String thrower = calls.length == 0 ? "" : calls[0].getClassName();
+        boolean isOwn = thrower.startsWith("ColdFrame") || thrower.startsWith("Model");
+        return thrown.getClass().getName() + (isOwn ? "" : " of " + thrower);
     }
 
     void end(String name) {

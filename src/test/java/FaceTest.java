@@ -14,7 +14,8 @@ import java.util.regex.Pattern;
 public final class FaceTest {
     private static final Path SHARED = Path.of("../shared/DOC.md");
     private static final Path PROGRAM = Path.of("src/main/java/ColdFrame.java");
-    private static final Pattern DECLARED = Pattern.compile("public (int|boolean|long|double) (\\w+)\\(([^)]*)\\)");
+    private static final Pattern DECLARED =
+            Pattern.compile("public (int|boolean|long|double) (\\w+)\\(([^)]*)\\)");
     private static final String[] RULED_OUT = {
         "->", "::", "\\bfinally\\b", "\\bsynchronized\\b", "\\bassert\\b", "\\w+Exact\\b", "\\bcatch\\b",
         "\\btry\\b", "\\bRandom\\b", "\\bSystem\\.(?!arraycopy\\b)", "\\bThread\\b", "\\bObject\\b",

@@ -198,7 +198,7 @@ public final class ModelTest {
             Method method = asked.getClass().getMethod(name, types);
             return method.invoke(asked, arguments);
         } catch (InvocationTargetException thrown) {
-            return "throws " + thrown.getCause().getClass().getName();
+            return "throws " + Check.nameOf(thrown.getCause());
         } catch (ReflectiveOperationException none) {
             throw new IllegalStateException(name, none);
         }

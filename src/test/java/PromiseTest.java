@@ -188,6 +188,14 @@ public final class PromiseTest {
         check.due("46 one group", x.groups(3), 1);
         check.due("42 sort all", x.sort(1, true), 0);
         check.due("8 seal the rest", x.seal(), 600 % 64);
+        ColdFrame y = store(1, 64);
+        for (int i = 0; i < 600; i++) {
+            row(y, -i);
+        }
+        y.find();
+        check.due("46 600 groups", y.groups(0), 600);
+        check.due("47 the last one", y.ofGroup(0, 599, 0, 1), 1);
+        check.due("42 all turned round", y.sort(0, false), 599);
     }
 
     private void p5delete() {
@@ -1311,6 +1319,16 @@ public final class PromiseTest {
         check.due("52 nor the order", x.rowAt(0, 1), 2);
         check.refused("52 no frame", x, BOUNDS, () -> x.bestCluster(1));
         check.refused("52 frame -1", x, BOUNDS, () -> x.bestCluster(-1));
+        // By 0, 14 and 13 bytes; by 1, 14 and 12, but were it by falling values, 14 and 13.
+        ColdFrame rising = store(2, 5);
+        int[][] values = {{10, 5}, {100, 0}, {250, 60}, {50, 40}, {50, 8}};
+        for (int[] v : values) {
+            row(rising, v[0], v[1]);
+        }
+        check.due("52 by rising values", rising.bestCluster(0), 1);
+        check.due("52 what cluster tells", rising.cluster(0, 1), 27 - 26);
+        check.due("52 and by 0", rising.cluster(0, 0), 26 - 27);
+        p52nullFirst();
         ColdFrame y = store(3, 4);
         for (int i = 0; i < 4; i++) {
             row(y, 1, 5 - i, 5 - i);
@@ -1322,6 +1340,18 @@ public final class PromiseTest {
         check.due("52 none alive", y.bestCluster(0), 0);
         check.due("52 the frame stays", y.rowsIn(0), 4);
         check.due("52 dead rows do not count", deadWaves().bestCluster(0), 0);
+    }
+
+    /** By 0, 7 and 14 bytes; by 1, 7 and 13, but were NULL last, by 0 as few. */
+    private void p52nullFirst() {
+        ColdFrame x = store(2, 6);
+        row(x, 2, 6);
+        row(x, null, 0);
+        row(x, 2, 8);
+        row(x, 2, 2);
+        row(x, null, 20);
+        row(x, null, 50);
+        check.due("52 NULL first", x.bestCluster(0), 1);
     }
 
     /** By its rows that are alive alone, as cluster() does it. */
