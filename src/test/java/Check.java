@@ -1,3 +1,5 @@
+import java.util.List;
+
 /** Counts what is as due and what is not, and tells the latter. */
 final class Check {
     private int right;
@@ -17,18 +19,35 @@ final class Check {
         }
     }
 
-    /** The call must throw just this class, not one below it, and leave the object as it was. */
-    void refused(String what, ColdFrame frame, Class<? extends Exception> want, Call call) {
-        long before = frame.digest();
-        due(what, thrownBy(call), want.getName());
-        due(what + " changed the digest", frame.digest(), before);
+    /** Tells the first line that is another one, as all of them would be too many to read. */
+    void same(String what, List<String> got, List<String> want) {
+        int line = 0;
+        while (line < got.size() && line < want.size() && got.get(line).equals(want.get(line))) {
+            line++;
+        }
+        due(what, line < got.size() ? got.get(line) : "the end", line < want.size() ? want.get(line) : "the end");
     }
 
-    private static String thrownBy(Call call) {
+    /** The call must throw just this class, not one below it, and leave all answers as they were. */
+    void refused(String what, ColdFrame frame, Class<? extends Exception> want, Call call) {
+        List<String> before = Answers.of(frame);
+        thrown(what, want, call);
+        same(what + ", the answers behind it", Answers.of(frame), before);
+    }
+
+    void thrown(String what, Class<? extends Exception> want, Call call) {
+        due(what, answerOf(call), "throws " + want.getName());
+    }
+
+    int count() {
+        return right + wrong;
+    }
+
+    static String answerOf(Call call) {
         try {
-            return "the answer " + call.answer();
+            return String.valueOf(call.answer());
         } catch (Exception thrown) {
-            return nameOf(thrown);
+            return "throws " + nameOf(thrown);
         }
     }
 

@@ -1,12 +1,5 @@
 /** Each promise by hand: ordinary inputs, the edges that the document names, wrong inputs. */
-public final class PromiseTest {
-    private static final Class<IllegalStateException> STATE = IllegalStateException.class;
-    private static final Class<IllegalArgumentException> ARGUMENT = IllegalArgumentException.class;
-    private static final Class<IndexOutOfBoundsException> BOUNDS = IndexOutOfBoundsException.class;
-    private static final int MIN = Integer.MIN_VALUE;
-    private static final int MAX = Integer.MAX_VALUE;
-    private static final int MILLION = 1000000;
-
+public final class PromiseTest extends Scene {
     private final Check check = new Check();
 
     public static void main(String[] args) {
@@ -20,64 +13,6 @@ public final class PromiseTest {
         test.results();
         test.whatWouldBe();
         test.check.end("PromiseTest");
-    }
-
-    private static ColdFrame store(int columns, int size) {
-        ColdFrame x = new ColdFrame();
-        for (int c = 0; c < columns; c++) {
-            x.addColumn();
-        }
-        x.setSize(size);
-        return x;
-    }
-
-    /** Null stands for NULL. */
-    private static int row(ColdFrame x, Integer... values) {
-        for (int c = 0; c < values.length; c++) {
-            if (values[c] != null) {
-                x.give(c, values[c]);
-            }
-        }
-        return x.add();
-    }
-
-    private static ColdFrame oneColumn(int size, Integer... values) {
-        ColdFrame x = store(1, size);
-        for (Integer value : values) {
-            row(x, value);
-        }
-        return x;
-    }
-
-    /** One column, all in one frame. */
-    private static ColdFrame oneFrame(Integer... values) {
-        ColdFrame x = oneColumn(64, values);
-        if (x.inBuffer() > 0) {
-            x.seal();
-        }
-        return x;
-    }
-
-    private static ColdFrame found(Integer... values) {
-        ColdFrame x = oneColumn(64, values);
-        x.find();
-        return x;
-    }
-
-    private static String rowsOf(ColdFrame x, int frame) {
-        StringBuilder rows = new StringBuilder();
-        for (int i = 0; i < x.rowsIn(frame); i++) {
-            rows.append(i == 0 ? "" : " ").append(x.rowAt(frame, i));
-        }
-        return rows.toString();
-    }
-
-    private static String result(ColdFrame x) {
-        StringBuilder rows = new StringBuilder();
-        for (int i = 0; i < x.found(); i++) {
-            rows.append(i == 0 ? "" : " ").append(x.foundAt(i));
-        }
-        return rows.toString();
     }
 
     // ---- 1 to 8
