@@ -5,12 +5,19 @@ import java.util.List;
 final class Answers {
     private static final int MOST_GROUPS = 4;
     private static final int MOST_CONDITIONS = 4;
+    private static final int MOST_ASKED = 16;
 
     private final ColdFrame x;
+    private final int columns;
+    private final int rows;
+    private final int frames;
     private final List<String> lines = new ArrayList<>();
 
     private Answers(ColdFrame x) {
         this.x = x;
+        columns = x.columns();
+        rows = x.rows();
+        frames = x.frames();
     }
 
     /** By the calls that change nothing. */
@@ -25,13 +32,23 @@ final class Answers {
         return answers.lines;
     }
 
-    /** Also by calls that change it, for an object that is not used any more. */
+    /**
+     * By calls that change it, for an object that is not used any more: of the groups' number, of what
+     * the next row was given, and of the SIZE no asking call tells.
+     */
     static List<String> lastOf(ColdFrame x) {
-        Answers answers = new Answers(x);
-        answers.lines.addAll(of(x));
-        answers.spend();
-        answers.lines.addAll(of(x));
-        return answers.lines;
+        List<String> lines = new ArrayList<>();
+        lines.add("where: " + Check.answerOf(() -> x.where(0, 7, 0)));
+        lines.add("orElse: " + Check.answerOf(x::orElse));
+        lines.add("where behind it: " + Check.answerOf(() -> x.where(0, 7, 0)));
+        lines.add("clear: " + Check.answerOf(x::clear));
+        lines.add("give: " + Check.answerOf(() -> x.give(0, 31)));
+        lines.add("add: " + Check.answerOf(x::add));
+        lines.add("setSize: " + Check.answerOf(() -> x.setSize(64)));
+        lines.add("addColumn: " + Check.answerOf(x::addColumn));
+        lines.add("seal: " + Check.answerOf(x::seal));
+        lines.addAll(of(x));
+        return lines;
     }
 
     private boolean ask(String what, Check.Call call) {
@@ -41,10 +58,8 @@ final class Answers {
     }
 
     private void askCounts() {
-        ask("columns", x::columns);
-        ask("rows", x::rows);
+        lines.add("columns, rows and frames: " + columns + " " + rows + " " + frames);
         ask("alive", x::alive);
-        ask("frames", x::frames);
         ask("inBuffer", x::inBuffer);
         ask("bitmapBytes", x::bitmapBytes);
         ask("cost", x::cost);
@@ -54,12 +69,20 @@ final class Answers {
         ask("digest", x::digest);
     }
 
+    /** Those at both ends, as an object has 512 calls; the checksum tells of all. */
+    private static int[] someOf(int count) {
+        int[] some = new int[Math.min(count, MOST_ASKED)];
+        for (int i = 0; i < some.length; i++) {
+            some[i] = i < some.length / 2 ? i : count - some.length + i;
+        }
+        return some;
+    }
+
     private void askRows() {
-        for (int r = 0; r < x.rows(); r++) {
-            int row = r;
+        for (int row : someOf(rows)) {
             ask("isAlive " + row, () -> x.isAlive(row));
             ask("frameOf " + row, () -> x.frameOf(row));
-            for (int c = 0; c < x.columns(); c++) {
+            for (int c = 0; c < columns; c++) {
                 int column = c;
                 ask("isNull " + row + " " + column, () -> x.isNull(row, column));
                 ask("valueOf " + row + " " + column, () -> x.valueOf(row, column));
@@ -68,16 +91,16 @@ final class Answers {
     }
 
     private void askFrames() {
-        for (int f = 0; f < x.frames(); f++) {
+        for (int f = 0; f < frames; f++) {
             int frame = f;
-            ask("rowsIn " + frame, () -> x.rowsIn(frame));
-            for (int p = 0; p < x.rowsIn(frame); p++) {
-                int place = p;
+            int rowsIn = x.rowsIn(frame);
+            lines.add("rowsIn " + frame + ": " + rowsIn);
+            for (int place : someOf(rowsIn)) {
                 ask("rowAt " + frame + " " + place, () -> x.rowAt(frame, place));
             }
             ask("bytes " + frame, () -> x.bytes(frame));
             ask("bestCluster " + frame, () -> x.bestCluster(frame));
-            for (int c = 0; c < x.columns(); c++) {
+            for (int c = 0; c < columns; c++) {
                 askZone(frame, c);
             }
         }
@@ -99,7 +122,7 @@ final class Answers {
 
     /** No call tells how many conditions there are, so all are asked for till one is refused. */
     private void askPlan() {
-        for (int f = 0; f < x.frames(); f++) {
+        for (int f = 0; f < frames; f++) {
             int frame = f;
             for (int g = 0; g < MOST_GROUPS; g++) {
                 int group = g;
@@ -115,16 +138,16 @@ final class Answers {
     }
 
     private void askResult() {
-        ask("found", x::found);
-        for (int p = 0; p < x.found(); p++) {
-            int place = p;
+        int found = x.found();
+        lines.add("found: " + found);
+        for (int place : someOf(found)) {
             ask("foundAt " + place, () -> x.foundAt(place));
         }
-        for (int c = 0; c < x.columns(); c++) {
+        for (int c = 0; c < columns; c++) {
             int column = c;
             ask("sum " + column, () -> x.sum(column));
             ask("mean " + column, () -> x.mean(column));
-            for (int o = 0; o < x.columns(); o++) {
+            for (int o = 0; o < columns; o++) {
                 int other = o;
                 ask("pairs " + column + " " + other, () -> x.pairs(column, other));
             }
@@ -133,10 +156,10 @@ final class Answers {
 
     /** Of the first and the last group, as there may be 600. */
     private void askGroups() {
-        for (int c = 0; c < x.columns(); c++) {
+        for (int c = 0; c < columns; c++) {
             int column = c;
             int groups = x.groups(column);
-            ask("groups " + column, () -> x.groups(column));
+            lines.add("groups " + column + ": " + groups);
             for (int g = 0; g < groups; g += Math.max(1, groups - 1)) {
                 for (int a = 0; a < 5; a++) {
                     int group = g;
@@ -146,17 +169,5 @@ final class Answers {
                 }
             }
         }
-    }
-
-    /** What no asking call tells: the SIZE, the groups' number, what the next row was given. */
-    private void spend() {
-        ask("orElse", x::orElse);
-        ask("where", () -> x.where(0, 7, 0));
-        ask("clear", x::clear);
-        ask("give", () -> x.give(0, 31));
-        ask("add", x::add);
-        ask("setSize", () -> x.setSize(64));
-        ask("addColumn", x::addColumn);
-        ask("seal", x::seal);
     }
 }

@@ -55,13 +55,19 @@ abstract class Edges extends Scene {
         check.due(at + what, got, want);
     }
 
-    /** The object must go on just like one that never got the call, also in what is not asked at once. */
+    /** The object must go on just like one that never got the call; none is called more than 512 times. */
     void refused(String what, Class<? extends Exception> want, Maker maker, Asked call) {
-        ColdFrame x = maker.make();
-        List<String> ahead = Answers.of(x);
+        ColdFrame asked = maker.make();
+        check.thrown(at + what, want, () -> call.of(asked));
+        check.same(at + what + ", the answers behind it", Answers.of(asked), Answers.of(maker.make()));
+        ColdFrame spent = maker.make();
+        check.thrown(at + what + ", once more", want, () -> call.of(spent));
+        check.same(at + what + ", what comes then", Answers.lastOf(spent), Answers.lastOf(maker.make()));
+    }
+
+    /** Where what is answered behind it is free. */
+    void thrown(String what, Class<? extends Exception> want, ColdFrame x, Asked call) {
         check.thrown(at + what, want, () -> call.of(x));
-        check.same(at + what + ", the answers behind it", Answers.of(x), ahead);
-        check.same(at + what + ", all that comes then", Answers.lastOf(x), Answers.lastOf(maker.make()));
     }
 
     void answered(String what, Maker maker, Asked call) {

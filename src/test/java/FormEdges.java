@@ -59,7 +59,8 @@ final class FormEdges extends Edges {
 
     // ---- the terms: numbers
 
-    @Told(promise = TERMS, words = "bits(a), for a from 0 on, is the least number of bits b with a below 2 to the power of b")
+    @Told(promise = TERMS, words = "bits(a), for a from 0 on, is the least number of bits b with a below 2 to "
+            + "the power of b")
     void t01bits() {
         for (int b = 1; b < 32; b++) {
             due("2 to the power of " + b + ", less 1", bytes(spread((1L << b) - 1), PACKED), 9 + b);
@@ -138,7 +139,8 @@ final class FormEdges extends Edges {
         due("one value is both", oneFrame(7).least(0, 0), oneFrame(7).greatest(0, 0));
     }
 
-    @Told(promise = TERMS, words = "runs how many rows of neighbours there are with all the same value, or all NULL, as long as can be")
+    @Told(promise = TERMS, words = "runs how many rows of neighbours there are with all the same value, or all "
+            + "NULL, as long as can be")
     void t08runs() {
         due("one row", oneFrame(5).runs(0, 0), 1);
         due("one NULL", oneFrame((Integer) null).runs(0, 0), 1);
@@ -424,7 +426,8 @@ final class FormEdges extends Edges {
         due("not any more", bitmaps(x), 0);
     }
 
-    @Told(promise = TERMS, words = "each frame in which distinct is 1 to 16 has a bitmap for each different value of it")
+    @Told(promise = TERMS, words = "each frame in which distinct is 1 to 16 has a bitmap for each different "
+            + "value of it")
     void t28bitmaps() {
         due("no value", bitmaps(oneFrame(null, null)), 0);
         due("one value", bitmaps(oneFrame(0, 0)), 1);

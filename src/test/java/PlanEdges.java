@@ -251,6 +251,7 @@ final class PlanEdges extends Edges {
         due("one is not", cost(killed(values(), 0, 0), is(0, 2, 3)), 8);
         due("none is", cost(killed(values(), 0, 7), is(0, 2, 3)), 8);
         due("none is, two conditions", cost(killed(values(), 0, 7), is(0, 2, 3), is(1, 2, 3)), 8 + 3);
+        due("64 rows", cost(counted(64, 64), is(0, 2, 3), is(0, 1, 1)), 64 + 3);
         due("clustered", cost(clustered(killed(values(), 4, 7)), is(1, 2, 6)), 4);
     }
 
@@ -286,7 +287,8 @@ final class PlanEdges extends Edges {
         due("method, " + what, x.method(0, 0, 0), due);
     }
 
-    @Told(promise = TERMS, words = "Each condition that is looked at has a METHOD there, the first one that is so, and a COST")
+    @Told(promise = TERMS, words = "Each condition that is looked at has a METHOD there, the first one that is "
+            + "so, and a COST")
     void t40firstMethod() {
         ColdFrame runs = indexed(runs());
         methodDue("NONE ahead of BITMAPS", runs, is(0, 0, 0), NONE);
@@ -630,6 +632,7 @@ final class PlanEdges extends Edges {
     void t70bufferAsStated() {
         due("fewer rows first", cost(buffered(), is(0, 2, 3), is(1, 2, 5)), 8 + 3);
         due("more rows first", cost(buffered(), is(1, 2, 5), is(0, 2, 3)), 8 + 5);
+        due("one row last", cost(buffered(), is(1, 2, 5), is(0, 0, 3)), 8 + 5);
         due("INDEXED", cost(indexed(buffered()), is(0, 2, 3), is(1, 2, 5)), 8 + 3);
         due("none could", cost(buffered(), is(0, 0, 77)), 8);
         due("all must", cost(buffered(), is(0, 5, 0), is(0, 7, 0)), 8 + 8);
@@ -652,6 +655,7 @@ final class PlanEdges extends Edges {
     void t72bufferSelected() {
         due("one is not ALIVE", cost(killed(buffered(), 0, 0), is(0, 2, 3), is(1, 2, 5)), 8 + 3);
         due("none is", cost(killed(buffered(), 0, 7), is(0, 2, 3), is(1, 2, 5)), 8 + 3);
+        due("63 rows", cost(counted(64, 63), is(0, 2, 3), is(0, 1, 1)), 63 + 3);
         due("one row", cost(counted(4, 1), is(0, 0, 0)), 1);
         due("no row", cost(store(1, 4), is(0, 0, 0)), 0);
     }

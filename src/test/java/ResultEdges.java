@@ -442,7 +442,8 @@ final class ResultEdges extends Edges {
         return x;
     }
 
-    @Told(promise = 47, words = "Of the groups of rows of the RESULT with the same value of a column (or NULL there), by rising values, NULL last")
+    @Told(promise = 47, words = "Of the groups of rows of the RESULT with the same value of a column (or "
+            + "NULL there), by rising values, NULL last")
     void p47groups() {
         accounts("values", foundTwo(7, null, -7, 0, 7), 0, -7, 0, 7, 0);
         accounts("rows", foundTwo(7, null, -7, 0, 7), 1, 1, 1, 2, 1);
@@ -531,10 +532,11 @@ final class ResultEdges extends Edges {
 
     @Told(promise = 48, words = "Keeps the RESULT, in place of the one kept ahead.")
     void p48keeps() {
-        ColdFrame x = found(5, 5, 6);
+        ColdFrame x = found(5, 6, 6);
         due("nothing is kept at first", x.pairs(0, 0), 0);
         x.keep();
-        due("all", x.pairs(0, 0), 2 * 2 + 1);
+        due("all", x.pairs(0, 0), 1 + 2 * 2);
+        x.sort(0, true);
         x.limit(1);
         due("what is kept stays", x.pairs(0, 0), 2);
         x.keep();
@@ -558,6 +560,17 @@ final class ResultEdges extends Edges {
         due("one", found(5).keep(), 1);
         due("limited", limited(2, 5, 6, 7).keep(), 2);
         due("deleted", killed(found(5, 6, 7), 0, 2).keep(), 3);
+        ColdFrame x = limited(1, 5, 6, 7);
+        x.keep();
+        x.find();
+        due("the first one alone", x.pairs(0, 0), 1);
+        x.limit(1);
+        due("which it pairs with", x.pairs(0, 0), 1);
+        ColdFrame y = found(5, 6, 6);
+        y.keep();
+        y.where(0, 0, 6);
+        y.find();
+        due("all, though fewer are found then", y.pairs(0, 0), 2 * 2);
     }
 
     /** Kept are all; the RESULT is all, too. */
@@ -585,7 +598,8 @@ final class ResultEdges extends Edges {
         due("one and none", none.pairs(0, 0), 0);
     }
 
-    @Told(promise = 49, words = "so that the value of the column in the first one is that of the other column in the second one")
+    @Told(promise = 49, words = "so that the value of the column in the first one is that of the other "
+            + "column in the second one")
     void p49columns() {
         ColdFrame x = kept(5, 1, 6, 5, 7, 5);
         due("the second column's 5 are two", x.pairs(0, 1), 2);

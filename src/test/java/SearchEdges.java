@@ -187,7 +187,8 @@ final class SearchEdges extends Edges {
         due("behind it", x.cost(), 6);
     }
 
-    @Told(promise = 37, words = "Returns in how many frames all groups that have conditions were left without any row SELECTED")
+    @Told(promise = 37, words = "Returns in how many frames all groups that have conditions were left "
+            + "without any row SELECTED")
     void p37frames() {
         ColdFrame x = counted(4, 12);
         int[][] due = {{-1, 3}, {0, 2}, {3, 2}, {4, 2}, {11, 2}, {12, 3}};

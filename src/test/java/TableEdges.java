@@ -60,7 +60,7 @@ final class TableEdges extends Edges {
         due("call 512 is change", usedFor511Calls().change(0, 0, 0), 255);
         due("call 512 is merge", usedFor511Calls().merge(5), 64);
         due("call 512 is delete", usedFor511Calls().delete(254), true);
-        refused("call 512 is wrong", BOUNDS, TableEdges::usedFor511Calls, x -> x.isAlive(255));
+        thrown("call 512 is wrong", BOUNDS, usedFor511Calls(), x -> x.isAlive(255));
     }
 
     @Told(promise = TERMS, words = "at most 8 COLUMNS, numbered from 0")
@@ -89,6 +89,10 @@ final class TableEdges extends Edges {
         due("rows", x.rows(), 600);
         due("all are found", x.find(), 600);
         due("the last one", x.foundAt(599), 599);
+        x.find();
+        due("sorted, NULL is behind the other 599", x.sort(0, true), 598);
+        due("the last group", x.ofGroup(0, x.groups(0) - 1, 0, 1), 1);
+        due("each with itself, but NULL", x.keep() + x.pairs(0, 0), 600 + 599);
         refused("row 600", STATE, TableEdges::with600, ColdFrame::add);
         refused("row 600 by a change", STATE, TableEdges::with600, y -> y.change(599, 0, 0));
     }

@@ -1,5 +1,8 @@
 /** Promises 50 to 53: what would be, and the checksum; and what the terms tell of refused calls. */
 final class WouldBeEdges extends Edges {
+    /** Clustered, it takes one byte less: steps of 9 bits become steps of 8. */
+    private static final int[] STEPS = {100, 300, 200, 400};
+
     /** Two columns of 64 rows, by turns and rising by 1: clustered by 0 it takes more, by 1 the same. */
     private static ColdFrame waves() {
         ColdFrame x = store(2, 64);
@@ -11,10 +14,12 @@ final class WouldBeEdges extends Edges {
 
     private void changesNothing(Asked call) {
         for (Maker maker : new Maker[] {ColdFrame::new, Scene::busy, WouldBeEdges::waves}) {
-            ColdFrame x = maker.make();
-            Check.answerOf(() -> call.of(x));
-            due("the answers behind it", Answers.of(x), Answers.of(maker.make()));
-            due("all that comes then", Answers.lastOf(x), Answers.lastOf(maker.make()));
+            ColdFrame asked = maker.make();
+            Check.answerOf(() -> call.of(asked));
+            due("the answers behind it", Answers.of(asked), Answers.of(maker.make()));
+            ColdFrame spent = maker.make();
+            Check.answerOf(() -> call.of(spent));
+            due("what comes then", Answers.lastOf(spent), Answers.lastOf(maker.make()));
         }
     }
 
@@ -161,40 +166,77 @@ final class WouldBeEdges extends Edges {
         }
         due("the other way round", y.bestCluster(0), 0);
         due("of one column", counted(4, 4).bestCluster(0), 0);
-        due("of one byte more and less", steps(true).bestCluster(0), 1);
-        due("of one byte less and more", steps(false).bestCluster(0), 0);
+        due("1 and not 0", steps(true).bestCluster(0), 1);
+        due("0 and not 1", steps(false).bestCluster(0), 0);
         ColdFrame z = store(8, 4);
-        int[][] rows = {{1, 100}, {2, 300}, {3, 200}, {4, 400}};
-        for (int[] r : rows) {
-            row(z, r[0], r[0], r[0], r[0], r[0], r[0], r[0], r[1]);
+        for (int second : STEPS) {
+            row(z, 1, 1, 1, 1, 1, 1, 1, second);
         }
-        due("of eight, all but the last one let it be", z.bestCluster(0), bestOf(z));
+        due("of eight, all but the last one let it be", z.bestCluster(0), 7);
         changesNothing(w -> w.bestCluster(0));
     }
 
-    /** By the column that rises 0 or 1 bytes less, by the other one -1 or 0. */
     private static ColdFrame steps(boolean isSecond) {
         ColdFrame x = store(2, 4);
-        int[][] rows = {{1, 100}, {2, 300}, {3, 200}, {4, 400}};
-        for (int[] r : rows) {
-            row(x, isSecond ? r[0] : r[1], isSecond ? r[1] : r[0]);
+        for (int step : STEPS) {
+            row(x, isSecond ? 7 : step, isSecond ? step : 7);
         }
         return x;
     }
 
-    /** By clustering, which then stays. */
-    private static int bestOf(ColdFrame x) {
+    /** Three columns of 3 to 20 rows, NULL and deleted ones among them, the last one ALIVE. */
+    private static ColdFrame drawn(int seed) {
+        Dice dice = new Dice(seed);
+        ColdFrame x = store(3, 64);
+        int rows = 3 + dice.roll(18);
+        for (int i = 0; i < rows; i++) {
+            row(x, drawn(dice, 4, 100), drawn(dice, 30, 1), drawn(dice, 3, 5000));
+        }
+        x.seal();
+        for (int r = 0; r < rows - 1; r++) {
+            if (dice.oneIn(6)) {
+                x.delete(r);
+            }
+        }
+        return x;
+    }
+
+    /** By 0, 7 and 14 bytes; by 1, 7 and 13, but were NULL last, by 0 as few. */
+    private static ColdFrame nullFirst() {
+        ColdFrame x = store(2, 6);
+        Integer[][] rows = {{2, 6}, {null, 0}, {2, 8}, {2, 2}, {null, 20}, {null, 50}};
+        for (Integer[] values : rows) {
+            row(x, values);
+        }
+        return x;
+    }
+
+    private static Integer drawn(Dice dice, int sides, int scale) {
+        return dice.oneIn(6) ? null : (Integer) (dice.roll(sides) * scale);
+    }
+
+    /** Each column with an object of its own, as clustering changes it. */
+    private static int bestByTrying(Maker maker) {
         int best = 0;
         int most = MIN;
-        int told = 0;
-        for (int c = 0; c < x.columns(); c++) {
-            told += x.cluster(0, c);
+        for (int c = 0; c < maker.make().columns(); c++) {
+            int told = maker.make().cluster(0, c);
             if (told > most) {
                 best = c;
                 most = told;
             }
         }
         return best;
+    }
+
+    @Told(promise = 52, words = "by which cluster() would tell the most")
+    void p52asClusterTells() {
+        for (int seed = 0; seed < 100; seed++) {
+            int drawn = seed;
+            due("drawn " + drawn, drawn(drawn).bestCluster(0), bestByTrying(() -> drawn(drawn)));
+        }
+        due("were NULL last, the other one would be", nullFirst().bestCluster(0), 1);
+        due("as it tells", bestByTrying(WouldBeEdges::nullFirst), 1);
     }
 
     @Told(promise = 52, words = "of several the smallest")
@@ -205,9 +247,8 @@ final class WouldBeEdges extends Edges {
         }
         due("all the same", x.bestCluster(0), 0);
         ColdFrame y = store(3, 4);
-        int[][] rows = {{1, 100}, {2, 300}, {3, 200}, {4, 400}};
-        for (int[] r : rows) {
-            row(y, r[0], r[1], r[1]);
+        for (int step : STEPS) {
+            row(y, 7, step, step);
         }
         due("the last two", y.bestCluster(0), 1);
         due("the frame would be gone", killed(waves(), 0, 63).bestCluster(0), 0);
@@ -300,7 +341,7 @@ final class WouldBeEdges extends Edges {
         due("13 numbers", counted(4, 1).digest(), -3629128792833056007L);
         due("17 numbers", counted(4, 2).digest(), -3749256693363524167L);
         due("numbers below 0", oneColumn(4, MIN).digest(), sumOf(1, 1, 1, 0, 1, 0, 0, 0, 0, 1, -1, 0, MIN));
-        sumDue("64 rows", waves());
+        sumDue("eight rows", codes());
     }
 
     @Told(promise = 53, words = "(whether something is so counts 1 or 0)")
@@ -309,7 +350,8 @@ final class WouldBeEdges extends Edges {
         due("not ALIVE", killed(counted(4, 1), 0, 0).digest(), sumOf(1, 1, 0, 0, 1, 0, 0, 0, 0, 0, -1, 0, 0));
     }
 
-    @Told(promise = 53, words = "columns(), rows(), alive(), frames(), inBuffer(), bitmapBytes(), cost(), passed(), found(), each foundAt()")
+    @Told(promise = 53, words = "columns(), rows(), alive(), frames(), inBuffer(), bitmapBytes(), cost(), "
+            + "passed(), found(), each foundAt()")
     void p53counts() {
         ColdFrame x = counted(4, 0);
         x.find();
@@ -341,7 +383,8 @@ final class WouldBeEdges extends Edges {
                 sumOf(2, 2, 0, 0, 0, 0, 0, 0, 0, 0, -2, 0, 7, 1, 0, 0, -2, 1, 0, 0, -7));
     }
 
-    @Told(promise = 53, words = "then for each frame rowsIn(), each rowAt(), bytes(), and for each column formOf(), nulls(), distinct(), runs(), least(), greatest()")
+    @Told(promise = 53, words = "then for each frame rowsIn(), each rowAt(), bytes(), and for each column "
+            + "formOf(), nulls(), distinct(), runs(), least(), greatest()")
     void p53frames() {
         due("one frame", oneFrame(9).digest(),
                 sumOf(1, 1, 1, 1, 0, 0, 0, 0, 0, 1, 0, 0, 9, 1, 0, 4, 0, 0, 1, 1, 9, 9));
